@@ -358,6 +358,7 @@ public final class BookTrees {
             return changes[key] == DROPPED;
         }
 
+        /** Means nothing for a key that has no value here. */
         int valueOf(int key) {
             return values[key];
         }
@@ -369,13 +370,11 @@ public final class BookTrees {
 
         void setDropped(int key) {
             note(key, DROPPED);
-            values[key] = 0;
         }
 
         void clear() {
             for (int key = 0; key < KEYS; key++) {
                 changes[key] = UNCHANGED;
-                values[key] = 0;
             }
             size = 0;
         }
@@ -469,7 +468,7 @@ public final class BookTrees {
         private final int slots;
         private final byte[] bytes;
         private final boolean[] torn;
-        /** A block is made up here before it is written. */
+        /** A block is made up here before it is written; the bytes that are 0 in all blocks are never set. */
         private final byte[] sheet = new byte[BLOCK];
         private int start;
         private int end;
@@ -586,9 +585,6 @@ public final class BookTrees {
         }
 
         private void makeUp(int block, int kind, int bits, int version, int[] entries, int from) {
-            for (int i = 0; i < BLOCK; i++) {
-                sheet[i] = 0;
-            }
             sheet[KIND_AT] = (byte) kind;
             sheet[BITS_AT] = (byte) bits;
             setInt(VERSION_AT, version);
@@ -631,8 +627,8 @@ public final class BookTrees {
         }
 
         private static int intAt(byte[] from, int at) {
-            return (from[at] & 255) << 24 | (from[at + 1] & 255) << 16
-                    | (from[at + 2] & 255) << 8 | from[at + 3] & 255;
+            return ((from[at] & 255) << 24) | ((from[at + 1] & 255) << 16)
+                    | ((from[at + 2] & 255) << 8) | (from[at + 3] & 255);
         }
 
         /** The sum of the contents that begin at a place. */
@@ -640,7 +636,7 @@ public final class BookTrees {
             long sum = 0;
             for (int i = 0; i < SUM_AT; i++) {
                 long mixed = sum ^ (from[at + i] & 255);
-                sum = (mixed << 47 | mixed >>> 17) * FACTOR;
+                sum = ((mixed << 47) | (mixed >>> 17)) * FACTOR;
             }
             return sum;
         }
@@ -670,7 +666,6 @@ public final class BookTrees {
             for (int page = 0; page < COUNT; page++) {
                 marked[page] = false;
                 bits[page] = 0;
-                blocks[page] = 0;
             }
             for (int i = 0; i < COUNT * 8; i++) {
                 entries[i] = 0;

@@ -11,6 +11,7 @@ public final class CommitTest {
         pagesThatEnd();
         rowCounts();
         wholeTree();
+        onceMoreFromVersion0();
         full();
         bad();
         withoutPower();
@@ -172,6 +173,23 @@ public final class CommitTest {
         Blocks.dueBlock(CHECK, x, Blocks.image(Blocks.NODE, 255, 1, 71, 56, 57, 58, 59, 60, 61, 62, 63), 71);
         Blocks.dueBlock(CHECK, x, Blocks.image(Blocks.TOP, 255, 1, 72, 64, 65, 66, 67, 68, 69, 70, 71), 72);
         Blocks.dueBlock(CHECK, x, Blocks.image(Blocks.ROOT, 1, 1, 73, 72, 64, 0), 73);
+    }
+
+    /** Nothing of an earlier commit is left in the pages of a later one. */
+    private static void onceMoreFromVersion0() {
+        BookTrees x = new BookTrees(16);
+        x.put(0, 7);
+        x.put(9, 8);
+        x.put(500, 9);
+        CHECK.due("commit()", x.commit(), 1);
+        x.poke(6, 0, 1);
+        CHECK.due("reopen()", x.reopen(), 0);
+        x.put(1, 8);
+        CHECK.due("commit()", x.commit(), 1);
+        Blocks.dueBlock(CHECK, x, Blocks.image(Blocks.LEAF, 2, 1, 0, 0, 8), 0);
+        Blocks.dueBlock(CHECK, x, Blocks.image(Blocks.NODE, 1, 1, 1, 0), 1);
+        Blocks.dueBlock(CHECK, x, Blocks.image(Blocks.TOP, 1, 1, 2, 1), 2);
+        Blocks.dueBlock(CHECK, x, Blocks.image(Blocks.ROOT, 1, 1, 3, 2, 1, 0), 3);
     }
 
     private static void full() {

@@ -13,6 +13,7 @@ public final class DamageTest {
         sharedPages();
         wholeRoots();
         severalRoots();
+        severalRootsOverTheEnd();
         farNumbers();
         startOfRoots();
         CHECK.end();
@@ -317,6 +318,47 @@ public final class DamageTest {
         CHECK.due("rows(5)", y.rows(5), 101);
         CHECK.due("copy()", y.copy(), 10);
         CHECK.due("rows(10)", y.rows(10), 104);
+    }
+
+    /** Roots in 14 .. 17, the last two in slots 0 and 1, with the versions given; START is 14, slots 2 .. 13 have versions 3 .. 14. */
+    private static BookTrees rootsOverTheEnd(int... versions) {
+        BookTrees x = new BookTrees(16);
+        for (int version = 1; version <= 14; version++) {
+            x.drop(0);
+            x.commit();
+        }
+        x.copy();
+        for (int version = 16; version <= 18; version++) {
+            x.drop(0);
+            x.commit();
+        }
+        CHECK.due("told(0)", x.told(0), 14);
+        CHECK.due("told(1)", x.told(1), 18);
+        for (int i = 0; i < versions.length; i++) {
+            Blocks.turn(x, 14 + i, Blocks.image(Blocks.ROOT, 0, 15 + i, 14 + i, 0, 0, 14),
+                    Blocks.image(Blocks.ROOT, 0, versions[i], 14 + i, 0, 100 + i, 14));
+        }
+        return x;
+    }
+
+    private static void severalRootsOverTheEnd() {
+        BookTrees x = rootsOverTheEnd(4, 9, 4, 9);
+        CHECK.due("reopen(), an old root is the newest", x.reopen(), 14);
+        CHECK.due("told(0)", x.told(0), 0);
+        CHECK.due("told(1)", x.told(1), 14);
+        CHECK.due("kept(11)", x.kept(11), 3);
+        CHECK.due("kept(12)", x.kept(12), 0);
+        CHECK.due("kept(13)", x.kept(13), BookTrees.NONE);
+        CHECK.due("rows(4)", x.rows(4), 0);
+
+        BookTrees y = rootsOverTheEnd(24, 29, 24, 29);
+        CHECK.due("reopen()", y.reopen(), 29);
+        CHECK.due("told(0)", y.told(0), 14);
+        CHECK.due("told(1), behind the greater number", y.told(1), 18);
+        CHECK.due("rows(29)", y.rows(29), 103);
+        CHECK.due("rows(24)", y.rows(24), 102);
+        CHECK.due("kept(1)", y.kept(1), 24);
+        CHECK.due("kept(2)", y.kept(2), BookTrees.NONE);
     }
 
     private static void farNumbers() {

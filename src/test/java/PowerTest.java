@@ -148,24 +148,35 @@ public final class PowerTest {
 
     /** A root whose bytes are all right, but which was not written whole, is not taken. */
     private static void sameBytesAreTorn() {
-        BookTrees x = new BookTrees(16);
-        x.put(0, 1);
-        x.commit();
-        x.poke(3, 8, 1);
-        CHECK.due("reopen() with a bad root", x.reopen(), 0);
-        x.put(0, 1);
-        x.crash(3 * 64 + 20);
-        CHECK.due("commit()", x.commit(), BookTrees.CUT);
-        CHECK.due("reopen() with a torn root", x.reopen(), 0);
-        CHECK.due("told(1)", x.told(1), 0);
-        x.crash(64);
-        x.put(0, 1);
-        CHECK.due("commit() up to block 0", x.commit(), BookTrees.CUT);
-        CHECK.due("reopen() with a torn root still", x.reopen(), 0);
-        x.put(0, 1);
-        CHECK.due("commit()", x.commit(), 1);
-        CHECK.due("reopen() with a whole root", x.reopen(), 1);
-        CHECK.due("badAt(0)", x.badAt(0), BookTrees.NONE);
+        for (int n = 1; n <= 64; n++) {
+            BookTrees x = new BookTrees(16);
+            x.put(0, 1);
+            x.commit();
+            x.poke(3, n - 1, 1);
+            CHECK.due("reopen() with a bad root", x.reopen(), 0);
+            x.put(0, 1);
+            x.crash(3 * 64 + n);
+            CHECK.due("commit()", x.commit(), BookTrees.CUT);
+            CHECK.due("reopen() with " + n + " bytes of the root", x.reopen(), n == 64 ? 1 : 0);
+            CHECK.due("told(1)", x.told(1), n == 64 ? 4 : 0);
+        }
+        BookTrees y = new BookTrees(16);
+        y.put(0, 1);
+        y.commit();
+        y.poke(3, 8, 1);
+        y.reopen();
+        y.put(0, 1);
+        y.crash(3 * 64 + 20);
+        y.commit();
+        y.reopen();
+        y.crash(3 * 64);
+        y.put(0, 1);
+        CHECK.due("commit() up to the root", y.commit(), BookTrees.CUT);
+        CHECK.due("reopen() with a torn root still", y.reopen(), 0);
+        y.put(0, 1);
+        CHECK.due("commit()", y.commit(), 1);
+        CHECK.due("reopen() with a whole root", y.reopen(), 1);
+        CHECK.due("badAt(0)", y.badAt(0), BookTrees.NONE);
     }
 
     /** A root that is altered so that the blocks behind a cut are used once more. */
