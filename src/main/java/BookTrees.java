@@ -515,7 +515,7 @@ public final class BookTrees {
         }
 
         boolean hasBit(int block, int k) {
-            return (byteOf(block, BITS_AT) >> k & 1) == 1;
+            return ((byteOf(block, BITS_AT) >> k) & 1) == 1;
         }
 
         /** The lowest bit that is set, from one on, or NONE. */
@@ -717,14 +717,15 @@ public final class BookTrees {
         void change(Draft draft) {
             for (int key = 0; key < KEYS; key++) {
                 if (draft.has(key)) {
-                    rowCount -= bits[key >> 3] >> (key & 7) & 1;
-                    setEntry(key >> 3, key & 7, !draft.isDropped(key), draft.valueOf(key));
-                    rowCount += bits[key >> 3] >> (key & 7) & 1;
+                    int leaf = key >> 3;
+                    int before = bitOf(leaf, key & 7);
+                    setEntry(leaf, key & 7, !draft.isDropped(key), draft.valueOf(key));
+                    rowCount += bitOf(leaf, key & 7) - before;
                 }
             }
         }
 
-        /** Gives the marked pages that are there their blocks from one on, and says them to the pages above: the ROOT's block. */
+        /** Gives the marked pages that are there blocks from one on, which the pages over them name: the ROOT's block. */
         int place(int first) {
             int block = first;
             for (int page = 0; page < COUNT; page++) {
@@ -776,8 +777,12 @@ public final class BookTrees {
             entries[page * 8 + k] = there ? entry : 0;
         }
 
+        private int bitOf(int page, int k) {
+            return (bits[page] >> k) & 1;
+        }
+
         private boolean isInParent(int page) {
-            return (bits[parentOf(page)] >> (page & 7) & 1) == 1;
+            return bitOf(parentOf(page), page & 7) == 1;
         }
 
         private static int parentOf(int page) {

@@ -12,8 +12,8 @@ public final class RollTest {
         CHECK.end();
     }
 
-    /** Blocks 3 .. 9 are used: a copy in 3 .. 6, then a commit with just a ROOT and one more; slot 0 is block 0. */
-    private static BookTrees used3To10() {
+    /** Blocks 3 .. 8 are used: a copy without rows in 3, a ROOT in 4, a leaf, node, TOP and ROOT in 5 .. 8. */
+    private static BookTrees used3To8() {
         BookTrees x = new BookTrees(16);
         x.drop(0);
         x.commit();
@@ -30,7 +30,7 @@ public final class RollTest {
     }
 
     private static void bytes() {
-        BookTrees x = used3To10();
+        BookTrees x = used3To8();
         CHECK.due("told(0)", x.told(0), 3);
         CHECK.due("told(1)", x.told(1), 9);
         CHECK.due("byteAt(3, 0)", x.byteAt(3, 0), 4);
@@ -78,7 +78,7 @@ public final class RollTest {
     }
 
     private static void badBlocks() {
-        BookTrees x = used3To10();
+        BookTrees x = used3To8();
         CHECK.due("badAt(0) of none", x.badAt(0), BookTrees.NONE);
         x.poke(4, 56, 1);
         x.poke(8, 2, 1);
@@ -101,7 +101,7 @@ public final class RollTest {
     }
 
     private static void tells() {
-        BookTrees x = used3To10();
+        BookTrees x = used3To8();
         x.put(1, 1);
         x.put(2, 1);
         x.drop(9);
@@ -121,7 +121,7 @@ public final class RollTest {
     }
 
     private static void wrongArguments() {
-        BookTrees x = used3To10();
+        BookTrees x = used3To8();
         for (int block : new int[] {2, 9, 0, -1, 19, Integer.MIN_VALUE, Integer.MAX_VALUE}) {
             CHECK.argument("byteAt(" + block + ", 0)", () -> x.byteAt(block, 0));
             CHECK.argument("poke(" + block + ", 0, 1)", () -> x.poke(block, 0, 1));
@@ -142,7 +142,7 @@ public final class RollTest {
     }
 
     private static void withoutPower() {
-        BookTrees x = used3To10();
+        BookTrees x = used3To8();
         x.crash(0);
         CHECK.state("byteAt(4, 0)", () -> x.byteAt(4, 0));
         CHECK.state("poke(4, 0, 1)", () -> x.poke(4, 0, 1));
