@@ -8,10 +8,18 @@ final class Check {
     private static final int SHOWN = 50;
 
     private final String name;
+    private String sentence = "";
     private int wrong;
 
     Check(String name) {
         this.name = name;
+    }
+
+    /** A test of its own for words of the document: what is wrong in it is told with them. */
+    void of(String words, Call test) {
+        sentence = "\"" + words + "\": ";
+        due("the test throws", thrown(test), "nothing");
+        sentence = "";
     }
 
     void due(String call, long got, long want) {
@@ -65,7 +73,7 @@ final class Check {
     private void report(String text) {
         wrong++;
         if (wrong <= SHOWN) {
-            System.out.println(name + ": " + text);
+            System.out.println(name + ": " + sentence + text);
         }
     }
 }

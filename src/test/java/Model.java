@@ -55,6 +55,7 @@ final class Model {
     private int written;
     private int left = -1;
     private boolean down;
+    private boolean cut;
 
     Model(int blocks) {
         slots = blocks < 16 ? 16 : blocks > 200 ? 200 : blocks;
@@ -64,6 +65,11 @@ final class Model {
 
     boolean isDown() {
         return down;
+    }
+
+    /** Which blocks are used and which versions kept between a cut and reopening is not said. */
+    boolean isCut() {
+        return cut;
     }
 
     int newest() {
@@ -318,6 +324,7 @@ final class Model {
         }
         for (Block block : fresh) {
             if (!write(block)) {
+                cut = true;
                 return BookTrees.CUT;
             }
         }
@@ -380,6 +387,7 @@ final class Model {
 
     private int reopen() {
         down = false;
+        cut = false;
         left = -1;
         emptied();
         kept.clear();

@@ -1,6 +1,7 @@
 import java.util.ArrayDeque;
 import java.util.Deque;
 import java.util.Random;
+import java.util.Set;
 
 /** All promises: long mixed runs, each answer against the model's. */
 public final class ModelTest {
@@ -8,6 +9,8 @@ public final class ModelTest {
     private static final int RUNS = 4000;
     private static final int CALLS = 512;
     private static final int[] SIZES = {16, 16, 17, 20, 24, 30, 40, 64, 100, 200};
+    /** The calls that name a version or a block. */
+    private static final Set<String> NAMING = Set.of("find", "next", "rows", "byteAt", "poke");
     private static final int[] ODD = {-1, -2, 0, 1, 63, 64, 255, 256, 511, 512, Integer.MIN_VALUE, Integer.MAX_VALUE};
 
     private final Random random;
@@ -107,6 +110,9 @@ public final class ModelTest {
     }
 
     private void ask(String call, int a, int b, int c) {
+        if (model.isCut() && NAMING.contains(call)) {
+            return;
+        }
         String told = call + "(" + a + ", " + b + ", " + c + ")";
         String want = model.answer(call, a, b, c);
         String got = answer(call, a, b, c);
