@@ -41,6 +41,7 @@ public final class CallEdgesTest {
         CHECK.of("Promise 8: (looked at in this order)", CallEdgesTest::findLooksInOrder);
         CHECK.of("Promise 9: The least key from a key on", CallEdgesTest::nextFromKeyOn);
         CHECK.of("Promise 9: NONE", CallEdgesTest::nextNone);
+        CHECK.of("Promise 9: NONE, whatever lies in the slots", CallEdgesTest::nothingOnFullRoll);
         CHECK.of("Promise 9: BAD if it says BADLY", CallEdgesTest::nextBad);
         CHECK.of("Promise 10: How many rows a version has: none and all", CallEdgesTest::rowsNoneAndAll);
         CHECK.of("Promise 10: by its root (entry 1 as it stands)", CallEdgesTest::rowsAsItStands);
@@ -355,6 +356,32 @@ public final class CallEdgesTest {
         BookTrees y = Rolls.oneRow(16, 510, 5);
         CHECK.due("next(1, 510)", y.next(1, 510), 510);
         CHECK.due("next(1, 511)", y.next(1, 511), BookTrees.NONE);
+    }
+
+    /** Pages with all bits in each of the 16 slots, the last one too: nothing of them is read for rows that are not there. */
+    private static void nothingOnFullRoll() {
+        for (int first = 1; first <= 16; first++) {
+            BookTrees x = Rolls.copies(16, first);
+            x.put(0, 5);
+            for (int leaf = 1; leaf < 8; leaf++) {
+                for (int k = 0; k < 8; k++) {
+                    x.put(8 * leaf + k, 5);
+                }
+            }
+            int version = first + 1;
+            CHECK.due("commit() of 11", x.commit(), version);
+            CHECK.due("find(.., 1), not in the leaf", x.find(version, 1), BookTrees.GONE);
+            CHECK.due("find(.., 64), not in the TOP", x.find(version, 64), BookTrees.GONE);
+            CHECK.due("find(.., 511), not in the TOP", x.find(version, 511), BookTrees.GONE);
+            CHECK.due("next(.., 1)", x.next(version, 1), 8);
+            CHECK.due("next(.., 64)", x.next(version, 64), BookTrees.NONE);
+            CHECK.due("find(.., 0) without rows", x.find(first, 0), BookTrees.GONE);
+            CHECK.due("next(.., 0) without rows", x.next(first, 0), BookTrees.NONE);
+        }
+        BookTrees y = Rolls.leaves(16, 12);
+        CHECK.due("told(1)", y.told(1), 16);
+        CHECK.due("find(0, 0)", y.find(0, 0), BookTrees.GONE);
+        CHECK.due("next(0, 0)", y.next(0, 0), BookTrees.NONE);
     }
 
     private static void nextBad() {

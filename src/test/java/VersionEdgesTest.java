@@ -25,6 +25,8 @@ public final class VersionEdgesTest {
         CHECK.of("The newest version is this one then, the draft is empty", VersionEdgesTest::behindACommit);
         CHECK.of("If there is not room for all of them it is FULL: they just fit", VersionEdgesTest::commitFits);
         CHECK.of("If there is not room for all of them it is FULL, and nothing changes", VersionEdgesTest::commitTooLarge);
+        CHECK.of("it is FULL, and nothing changes: nothing of it is in a later commit", VersionEdgesTest::commitBehindFull);
+        CHECK.of("the commit is BAD, and nothing changes: nothing of it is in a later commit", VersionEdgesTest::commitBehindBad);
         CHECK.of("FULL: what is not written needs no room", VersionEdgesTest::commitWithoutLeavesFits);
         CHECK.of("A COPY writes all leaves, nodes, the TOP: of no rows", VersionEdgesTest::copyOfNothing);
         CHECK.of("A COPY writes all leaves, nodes, the TOP: of every leaf", VersionEdgesTest::copyOfAll);
@@ -353,6 +355,48 @@ public final class VersionEdgesTest {
         String before = Rolls.state(x);
         CHECK.due(call, x.commit(), BookTrees.FULL);
         CHECK.due("all behind " + call, Rolls.state(x), before);
+    }
+
+    private static void commitBehindFull() {
+        BookTrees x = new BookTrees(16);
+        putNodes(x, 8);
+        x.put(7, 77);
+        x.put(8, 78);
+        CHECK.due("commit()", x.commit(), BookTrees.FULL);
+        CHECK.due("undo()", x.undo(), 10);
+        x.put(1, 9);
+        CHECK.due("commit() then", x.commit(), 1);
+        dueRow1Alone(x, 1, 0);
+    }
+
+    /** A block with one row in leaf 0, and its pages behind it, in a version that had no rows before. */
+    private static void dueRow1Alone(BookTrees x, int version, int first) {
+        Blocks.dueBlock(CHECK, x, Blocks.image(Blocks.LEAF, 2, version, first, 0, 9), first);
+        Blocks.dueBlock(CHECK, x, Blocks.image(Blocks.NODE, 1, version, first + 1, first), first + 1);
+        Blocks.dueBlock(CHECK, x, Blocks.image(Blocks.TOP, 1, version, first + 2, first + 1), first + 2);
+        Blocks.dueBlock(CHECK, x, Blocks.image(Blocks.ROOT, 1, version, first + 3, first + 2, 1), first + 3);
+        CHECK.due("rows()", x.rows(version), 1);
+        CHECK.due("next()", x.next(version, 2), BookTrees.NONE);
+        CHECK.due("told(1)", x.told(1), first + 4);
+    }
+
+    /** Version 2 has rows in leaves 0 and 1; its leaf 1 is bad, then version 1 without rows is the newest again. */
+    private static void commitBehindBad() {
+        BookTrees x = Rolls.roots(16, 1);
+        x.put(0, 5);
+        x.put(8, 6);
+        x.put(64, 7);
+        x.commit();
+        x.poke(2, 63, 1);
+        x.put(0, 6);
+        x.drop(8);
+        x.put(65, 7);
+        CHECK.due("commit()", x.commit(), BookTrees.BAD);
+        x.poke(7, 63, 1);
+        CHECK.due("reopen()", x.reopen(), 1);
+        x.put(1, 9);
+        CHECK.due("commit() then", x.commit(), 2);
+        dueRow1Alone(x, 2, 1);
     }
 
     private static void commitWithoutLeavesFits() {
