@@ -547,19 +547,21 @@ public final class BookTrees {
 
         /** Whether sum and number are right. */
         boolean isSound(int block) {
-            return numberOf(block) == block && isSumRight(block);
+            int at = offsetOf(block);
+            return intAt(bytes, at + NUMBER_AT) == block && isSumRight(at);
         }
 
         /** A slot's number is also that of a block in it, so the calls that take a block take a slot. */
         boolean isWholeRoot(int slot) {
+            int at = offsetOf(slot);
             int number = numberOf(slot);
             int version = versionOf(slot);
             int from = entryOf(slot, ROOT_START);
             return byteOf(slot, KIND_AT) == ROOT
-                    && number >= 0 && number <= MOST_NUMBER && slotOf(number) == slot
+                    && number >= 0 && number <= MOST_NUMBER && offsetOf(number) == at
                     && version >= 1 && version <= MOST_NUMBER
                     && from >= 0 && from <= number && number - from < slots
-                    && isSumRight(slot);
+                    && isSumRight(at);
         }
 
         /** The slot of the newest whole root, or NONE. */
@@ -576,10 +578,11 @@ public final class BookTrees {
         /** Writes a block as far as the power goes, its eight entries from a place on: whether it held. */
         boolean write(int block, int kind, int bits, int version, int[] entries, int from) {
             makeUp(block, kind, bits, version, entries, from);
+            int at = offsetOf(block);
             int count = power.spend(BLOCK);
-            System.arraycopy(sheet, 0, bytes, offsetOf(block), count);
+            System.arraycopy(sheet, 0, bytes, at, count);
             if (count > 0) {
-                torn[slotOf(block)] = count < BLOCK;
+                torn[at / BLOCK] = count < BLOCK;
             }
             return !power.hasFailed();
         }
@@ -603,20 +606,17 @@ public final class BookTrees {
             return version > other || version == other && numberOf(slot) > numberOf(than);
         }
 
-        private boolean isSumRight(int block) {
-            int at = offsetOf(block);
+        /** Whether the sum of the block that begins at a place is right. */
+        private boolean isSumRight(int at) {
             long sum = sumOf(bytes, at);
-            return !torn[slotOf(block)]
+            return !torn[at / BLOCK]
                     && intAt(bytes, at + SUM_AT) == (int) (sum >>> 32)
                     && intAt(bytes, at + SUM_AT + 4) == (int) sum;
         }
 
-        private int slotOf(int block) {
-            return Math.floorMod(block, slots);
-        }
-
+        /** Where the slot of a block begins. */
         private int offsetOf(int block) {
-            return slotOf(block) * BLOCK;
+            return Math.floorMod(block, slots) * BLOCK;
         }
 
         private void setInt(int at, int number) {
