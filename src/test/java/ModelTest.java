@@ -115,57 +115,11 @@ public final class ModelTest {
         }
         String told = call + "(" + a + ", " + b + ", " + c + ")";
         String want = model.answer(call, a, b, c);
-        String got = answer(call, a, b, c);
+        String got = Calls.answer(x, call, a, b, c);
         last.add(told + " " + got);
         if (!got.equals(want)) {
             last.forEach(System.out::println);
         }
         CHECK.due(told, got, want);
-    }
-
-    private String answer(String call, int a, int b, int c) {
-        String[] answer = {"void"};
-        String thrown = Check.thrown(() -> answer[0] = called(call, a, b, c));
-        return thrown.equals("nothing") ? answer[0] : thrown;
-    }
-
-    private String called(String call, int a, int b, int c) {
-        switch (call) {
-            case "put":
-                return "" + x.put(a, b);
-            case "drop":
-                return "" + x.drop(a);
-            case "undo":
-                return "" + x.undo();
-            case "get":
-                return "" + x.get(a);
-            case "commit":
-                return "" + x.commit();
-            case "copy":
-                return "" + x.copy();
-            case "find":
-                return "" + x.find(a, b);
-            case "next":
-                return "" + x.next(a, b);
-            case "rows":
-                return "" + x.rows(a);
-            case "kept":
-                return "" + x.kept(a);
-            case "crash":
-                x.crash(a);
-                return "void";
-            case "reopen":
-                return "" + x.reopen();
-            case "isDown":
-                return "" + x.isDown();
-            case "byteAt":
-                return "" + x.byteAt(a, b);
-            case "poke":
-                return "" + x.poke(a, b, c);
-            case "badAt":
-                return "" + x.badAt(a);
-            default:
-                return "" + x.told(a);
-        }
     }
 }
