@@ -33,7 +33,7 @@ import javax.tools.JavaCompiler;
 import javax.tools.StandardJavaFileManager;
 import javax.tools.ToolProvider;
 
-/** LANGUAGE.md, as far as the program's text alone can break it: what .ci/run would not notice otherwise. */
+/** LANGUAGE.md: how deep calls go (rule 11), and what of rules 1, 2, 4, 5, 6, 8 and 10 shows in the text. */
 public final class LanguageTest {
     private static final Check CHECK = new Check("LanguageTest");
     private static final Path FILE = Path.of("src/main/java/BookTrees.java");
